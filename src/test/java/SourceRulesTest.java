@@ -1,0 +1,134 @@
+import java.io.IOException;
+import java.lang.reflect.Field;
+import java.lang.reflect.Method;
+import java.lang.reflect.Modifier;
+import java.nio.file.Files;
+import java.nio.file.Path;
+import java.util.ArrayList;
+import java.util.List;
+import java.util.Set;
+import java.util.TreeSet;
+import java.util.regex.Matcher;
+import java.util.regex.Pattern;
+
+/**
+ * Looks at the program itself: the face that the document gives it, and those
+ * rules of ../shared/LANGUAGE.md that can be seen from the text or the class.
+ */
+public final class SourceRulesTest {
+    private static final Path SOURCE = Path.of("src/main/java/SecondHelping.java");
+    private static final Path DOCUMENT = Path.of("../shared/DOC.md");
+    private static final String[] BANNED_WORDS = {"throw", "throws", "try", "catch", "synchronized", "assert",
+        "volatile", "native", "import static", "equals", "hashCode", "toString", "Object", "Exception", "var", "System\\.out",
+        "Math\\.[a-z]+Exact", "(Integer|Long|Math)\\.[A-Z]"};
+
+    private static int wrong = 0;
+
+    private static void hold(boolean holds, String rule) {
+        if (!holds) {
+            wrong++;
+            System.out.println("not kept: " + rule);
+        }
+    }
+
+    /** The text without comments, and without what stands between quotes. */
+    private static String bare(String text) {
+        String code = text.replaceAll("(?s)/\\*.*?\\*/", "").replaceAll("//[^\n]*", "");
+        return code.replaceAll("\"[^\"\n]*\"", "\"\"").replaceAll("'[^'\n]*'", "' '");
+    }
+
+    private static void lookAtWords(String text, String code) {
+        hold(text.chars().allMatch(c -> c == '\n' || c >= 32 && c < 127), "signs 32 to 126 alone");
+        hold(!code.contains("->") && !code.contains("::"), "no lambda, no method reference");
+        hold(!Pattern.compile("static\\s*\\{").matcher(code).find(), "no static initialiser");
+        hold(!Pattern.compile("(?m)^package").matcher(code).find(), "no package line");
+        for (String word : BANNED_WORDS) {
+            hold(!Pattern.compile("\\b" + word + "\\b").matcher(code).find(), "no " + word);
+        }
+        Matcher imports = Pattern.compile("(?m)^import ([^;]*);").matcher(code);
+        while (imports.find()) {
+            hold(Set.of("java.util.Arrays", "java.util.ArrayList", "java.util.List").contains(imports.group(1)),
+                    "no import of " + imports.group(1));
+        }
+    }
+
+    private static void lookAtMethods(String code) {
+        Pattern head = Pattern.compile("(?m)^( +)((?:public |private |static )*)[\\w\\[\\]]+ (\\w+)\\(([^)]*)\\) \\{$");
+        Matcher methods = head.matcher(code);
+        while (methods.find()) {
+            String name = methods.group(3);
+            int end = code.indexOf("\n" + methods.group(1) + "}", methods.end());
+            long lines = code.substring(methods.start(), end).chars().filter(c -> c == '\n').count();
+            hold(lines <= 60, name + " is too long: " + lines);
+            hold(methods.group(4).split(",").length <= 7, name + " takes too many");
+        }
+    }
+
+    private static Set<String> faceOfDocument() throws IOException {
+        Set<String> face = new TreeSet<>();
+        Matcher lines = Pattern.compile("(?m)^    public (int|long) (\\w+\\([^)]*\\));$").matcher(Files.readString(DOCUMENT));
+        while (lines.find()) {
+            face.add(lines.group(1) + " " + lines.group(2).replaceAll(" \\w+([,)])", "$1"));
+        }
+        return face;
+    }
+
+    private static String faceOf(Method method) {
+        List<String> types = new ArrayList<>();
+        for (Class<?> type : method.getParameterTypes()) {
+            types.add(type.getName());
+        }
+        return method.getReturnType().getName() + " " + method.getName() + "(" + String.join(", ", types) + ")";
+    }
+
+    private static void lookAtFace(Set<String> publicNames) throws IOException {
+        Set<String> face = new TreeSet<>();
+        for (Method method : SecondHelping.class.getDeclaredMethods()) {
+            if (Modifier.isPublic(method.getModifiers())) {
+                face.add(faceOf(method));
+                publicNames.add(method.getName());
+            } else {
+                hold(Modifier.isPrivate(method.getModifiers()), method.getName() + " is private");
+            }
+        }
+        hold(face.equals(faceOfDocument()), "the document's face: " + face);
+        hold(SecondHelping.class.getConstructors().length == 1, "one public constructor");
+        hold(Modifier.isFinal(SecondHelping.class.getModifiers()), "a final class");
+    }
+
+    private static void lookAtClass(Class<?> type, Set<String> publicNames) {
+        int fields = 0;
+        for (Field field : type.getDeclaredFields()) {
+            int modifiers = field.getModifiers();
+            fields += Modifier.isStatic(modifiers) ? 0 : 1;
+            hold(!Modifier.isStatic(modifiers) || Modifier.isFinal(modifiers), field.getName() + " is final");
+            hold(type != SecondHelping.class || Modifier.isPrivate(modifiers), field.getName() + " is private");
+        }
+        hold(fields <= 20, type.getName() + " has too many fields");
+        for (Method method : type.getDeclaredMethods()) {
+            boolean named = publicNames.contains(method.getName());
+            hold(!named || Modifier.isPublic(method.getModifiers()), method.getName() + " bears a public name");
+        }
+    }
+
+    public static void main(String[] args) throws IOException {
+        String text = Files.readString(SOURCE);
+        String code = bare(text);
+        lookAtWords(text, code);
+        lookAtMethods(code);
+        Set<String> publicNames = new TreeSet<>();
+        lookAtFace(publicNames);
+        lookAtClass(SecondHelping.class, publicNames);
+        Class<?>[] inside = SecondHelping.class.getDeclaredClasses();
+        hold(inside.length < 12, "some twelve classes");
+        for (Class<?> type : inside) {
+            hold(Modifier.isStatic(type.getModifiers()), type.getName() + " is static");
+            hold(!Modifier.isPublic(type.getModifiers()), type.getName() + " is not public");
+            lookAtClass(type, publicNames);
+        }
+        System.out.println(wrong == 0 ? "the program keeps to what can be seen of its rules" : wrong + " rules are not kept");
+        if (wrong != 0) {
+            System.exit(1);
+        }
+    }
+}
