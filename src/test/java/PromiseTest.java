@@ -510,6 +510,7 @@ public final class PromiseTest {
         due(21, "with most", x.like(-1), 0);
         due(21, "no such", x.like(6), -1);
         due(21, "-2", x.like(-2), -1);
+        dues(21, "refusals", refusals(x), 2, 0, 0, 0, 0, 0);
         SecondHelping y = told("d00001;d00003;d00002;d00003;l21;");
         due(21, "the middle", y.like(-1), 1);
         due(21, "of the middle", y.like(1), 3);
@@ -529,6 +530,9 @@ public final class PromiseTest {
         due(22, "by 3 shared or more", y.reading(0), 23);
         due(22, "nothing", y.reading(1), 0);
         due(22, "empty", told("l38;").reading(0), 0);
+        SecondHelping z = told("d00127;d00127;o0;o1;");
+        due(22, "by 8 shared or more", z.reading(0), 28);
+        due(22, "nothing, too", z.reading(1), 0);
     }
 
     private static void promise23() {
@@ -562,6 +566,9 @@ public final class PromiseTest {
         z.turn(2, 1, 9);
         rowed(z, 0, 1, 10);
         due(23, "the first by what is shared", z.fits(1), 20);
+        SecondHelping last = rowed(told("d00127;d00127;o0;o1;"), 0, 0);
+        due(23, "one alone", last.fits(0), 1);
+        due(23, "by 8 shared or more", last.fits(1), 28);
     }
 
     private static void promise24() {
@@ -586,6 +593,7 @@ public final class PromiseTest {
         SecondHelping z = told("d20000;d29001;", "o0;".repeat(6));
         due(24, "beyond 99", z.tellsMost(0), 1);
         due(24, "0 or 120", z.tellsMost(1), 2);
+        due(24, "T 8, too", told("d00127;d00127;o0;o1;").tellsMost(1), 2);
     }
 
     private static void promise25() {
@@ -631,6 +639,9 @@ public final class PromiseTest {
         due(27, "empty, 0", told(SIX).saves(0), -1);
         due(27, "nothing to save", told(SIX, "o3;o2;").saves(-1), 0);
         due(27, "LOG stays", x.allDue(), 40);
+        x.law(1, 0);
+        due(27, "most by KIND", x.saves(-1), 0);
+        due(27, "of 6 by KIND", x.saves(6), 4);
     }
 
     private static void promise28() {
@@ -675,6 +686,7 @@ public final class PromiseTest {
         due(30, "one does", y.wants(3, 0), 4);
         due(30, "two are cheaper", y.wants(3, 1), 3);
         due(30, "10 together", y.wants(3, 2), 10);
+        due(30, "all eight", told("d00001;d00002;d00004;d00008;d00016;d00032;d00064;d00128;").wants(255, 0), 255);
         due(30, "nobody without DOINGS", new SecondHelping().wants(1, 1), -9);
     }
 
