@@ -5,11 +5,7 @@ import java.math.BigInteger;
  * at the edges that the document names, and to wrong inputs, in their order.
  * The answers were worked out by hand from the document.
  */
-public final class PromiseTest {
-    private static final long LONG = 4000000000000000000L;
-    private static final int MIN = Integer.MIN_VALUE;
-    private static final int MAX = Integer.MAX_VALUE;
-
+public final class PromiseTest extends Checks {
     /**
      * Six DOINGS, one of each KIND: 0, 1, 3, 5 with MARKS 1, and 2, 4 with MARKS 2.
      * By the first LAW the places owe 0 2 0 6 0 0 16 4 12, which is 40 together,
@@ -17,62 +13,6 @@ public final class PromiseTest {
      */
     private static final String SIX = "d03001;d14001;d20002;d39001;d41002;d52001;";
     private static final String NINE = "o0;o1;o2;o5;o4;o3;o0;o4;o1;";
-
-    private static int wrong = 0;
-
-    private static void due(int promise, String what, long got, long want) {
-        if (got != want) {
-            wrong++;
-            System.out.println("promise " + promise + ", " + what + ": answered " + got + ", due is " + want);
-        }
-    }
-
-    private static void dues(int promise, String what, int[] got, int... want) {
-        due(promise, what + ": how many", got.length, want.length);
-        for (int i = 0; i < want.length && i < got.length; i++) {
-            due(promise, what + " at " + i, got[i], want[i]);
-        }
-    }
-
-    private static SecondHelping feed(SecondHelping x, String text) {
-        for (char letter : text.toCharArray()) {
-            x.feed(letter);
-        }
-        return x;
-    }
-
-    /** The answer of state() on a text. */
-    private static int tell(SecondHelping x, String text) {
-        return feed(x, text).state();
-    }
-
-    /** A new object that was told these texts, 96 letters at most each. */
-    private static SecondHelping told(String... texts) {
-        SecondHelping x = new SecondHelping();
-        for (String text : texts) {
-            int statements = tell(x, text);
-            if (statements < 0) {
-                throw new IllegalStateException(text + ": " + statements);
-            }
-        }
-        return x;
-    }
-
-    private static SecondHelping rowed(SecondHelping x, int... numbers) {
-        x.clear();
-        for (int number : numbers) {
-            x.row(number);
-        }
-        return x;
-    }
-
-    private static int[] refusals(SecondHelping x) {
-        int[] all = new int[6];
-        for (int i = 0; i < 6; i++) {
-            all[i] = x.count(11 + i);
-        }
-        return all;
-    }
 
     private static void promise1() {
         SecondHelping x = new SecondHelping();
@@ -1177,10 +1117,7 @@ public final class PromiseTest {
         promise29();
         promisesFrom30();
         promisesFrom45();
-        System.out.println(wrong == 0 ? "all promises hold" : wrong + " answers are not as due");
-        if (wrong != 0) {
-            System.exit(1);
-        }
+        end("all promises hold");
     }
 
     private static void promisesFrom30() {
