@@ -800,11 +800,13 @@ public final class SecondHelping {
             }
             trial.become(board);
             int statements = 0;
-            for (int start = 0; start < count; start += 2 + digitsBehind(letters[start])) {
-                if (!comes(start)) {
-                    return CANNOT_BE - start;
+            for (int place = 0; place < count; place++) {
+                if (beginsStatement(place)) {
+                    if (!comes(place)) {
+                        return CANNOT_BE - place;
+                    }
+                    statements++;
                 }
-                statements++;
             }
             board.become(trial);
             return statements;
@@ -859,6 +861,11 @@ public final class SecondHelping {
                 default:
                     return -1;
             }
+        }
+
+        /** Asked only of letters that have the form of a STATE: there ";" ends each STATEMENT. */
+        private boolean beginsStatement(int place) {
+            return place == 0 || letterAt(place - 1) == ';';
         }
 
         private boolean comes(int start) {

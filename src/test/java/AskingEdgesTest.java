@@ -301,6 +301,11 @@ public final class AskingEdgesTest extends Checks {
         last.marks(0, 1);
         rowed(last, 0, 1);
         due(23, "by KIND, 0 shared, 2 by one and more", last.fits(0), 9 + 1 + 7);
+        due(23, "not by a ninth MARK that is shared", rowed(told("d00255;d00255;o0;o1;"), 0, 0).fits(1), -9);
+        SecondHelping type3 = told("d00000;d00001;d00003;o0;o1;o2;");
+        due(23, "by 1 of just one alone", rowed(type3, 0, 1, 1).fits(0), 1);
+        due(23, "by 1 of just one", type3.fits(1), 31);
+        due(23, "by 7 of just one", rowed(told("d00000;d00127;d00255;o0;o1;o2;"), 0, 1, 1).fits(1), 37);
     }
 
     private static void tellsMost() {
@@ -324,6 +329,9 @@ public final class AskingEdgesTest extends Checks {
         SecondHelping many = told("d00255;d00127;d00063;d00031;d00015;d00007;d00003;d00001;", "o0;o1;o2;o3;o4;o5;o6;o7;");
         due(24, "unlike DUES", many.tellsMost(1), 8);
         due(24, "of the first", many.tellsMost(0), 0);
+        SecondHelping type3 = told("d00000;d00001;d00003;o0;o1;o2;");
+        due(24, "parted by what just one has", type3.tellsMost(0), 0);
+        due(24, "1, 2 or 3", type3.tellsMost(1), 3);
     }
 
     private static void loophole() {
@@ -336,6 +344,8 @@ public final class AskingEdgesTest extends Checks {
         due(25, "DOING 7, MARK 7", last.loophole(), 77);
         due(25, "had it that MARK", told("d00000;d00001;o0;o1;l31;").loophole(), 1);
         due(25, "had it that MARK not", told("d00003;d00003;o0;o1;l22;").loophole(), 0);
+        // Each of its eight MARKS brings 0 nearer to one of the three; only a ninth would not.
+        due(25, "no ninth MARK", told("d00000;d00007;d00056;d00193;l33;o1;o2;o3;o0;").loophole(), 1);
         due(25, "more by each", told("d00000;d00003;o0;o1;l31;").loophole(), -9);
     }
 
@@ -744,6 +754,9 @@ public final class AskingEdgesTest extends Checks {
         due(48, "what is left", last.banned(1), 1);
         due(48, "of those in THE LOG", told(EIGHT_UNLIKE, "o7;o7;").banned(0), 7);
         due(48, "of several the least", told(EIGHT_UNLIKE, "o7;o7;o6;o6;").banned(0), 6);
+        SecondHelping same = told("d00000;d09000;o0;o1;o1;");
+        due(48, "the later one", same.banned(0), 1);
+        due(48, "nothing is left of the first", same.banned(1), 0);
         due(48, "all twelve", told("d29000;", TWELVE).banned(1), 0);
         due(48, "what -1", none().banned(-1), -2);
         due(48, "what 2", none().banned(2), -2);

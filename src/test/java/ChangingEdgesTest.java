@@ -438,6 +438,58 @@ public final class ChangingEdgesTest extends Checks {
         due(11, "four places stay", full.count(1), 4);
     }
 
+    /** Each deed is taken back of its own DOING, also behind those that are no more. */
+    private static void backOfEach() {
+        SecondHelping x = none(8);
+        for (int d = 0; d < 8; d++) {
+            x.marks(d, d);
+        }
+        due(11, "eight MARKS", x.count(5), 8);
+        for (int d = 7; d >= 0; d--) {
+            due(11, "it had MARK " + d, x.doingOf(d, 2), 1 << d);
+            due(11, "MARK of " + d, x.back(), d);
+            due(11, "it has it no more: " + d, x.doingOf(d, 2), 0);
+            due(11, "the others have theirs", x.count(5), d);
+        }
+        SecondHelping y = none(8);
+        for (int i = 0; i < 12; i++) {
+            y.turn(i % 8, 5 - i % 6, i % 10);
+        }
+        for (int i = 0; i < 8; i++) {
+            y.back();
+        }
+        for (int d = 0; d < 8; d++) {
+            due(11, "KIND of " + d + " behind the first four", y.doingOf(d, 0), d < 4 ? 5 - d : 0);
+            due(11, "FIGURE of " + d + " behind the first four", y.doingOf(d, 1), d < 4 ? d : 0);
+        }
+        SecondHelping mixed = none(3);
+        mixed.law(3, 8);
+        mixed.does(2);
+        mixed.marks(1, 7);
+        mixed.turn(2, 4, 6);
+        mixed.does(1);
+        mixed.law(1, 1);
+        mixed.marks(2, 0);
+        mixed.turn(0, 1, 9);
+        mixed.does(0);
+        mixed.marks(0, 3);
+        for (int i = 0; i < 8; i++) {
+            mixed.back();
+        }
+        due(11, "the first LAW stays", 10 * mixed.count(2) + mixed.count(3), 38);
+        due(11, "the first place stays", mixed.count(1), 1);
+        due(11, "its DOING", mixed.place(0, 0), 2);
+        due(11, "no MARKS", mixed.count(5), 0);
+        for (int d = 0; d < 3; d++) {
+            due(11, "KIND and FIGURE at first of " + d, 10 * mixed.doingOf(d, 0) + mixed.doingOf(d, 1), 0);
+        }
+    }
+
+    /** So many DOINGS of KIND 0, FIGURE 0, without MARKS. */
+    private static SecondHelping none(int doings) {
+        return told("d00000;".repeat(doings));
+    }
+
     private static void backNone() {
         SecondHelping x = told("d00000;");
         x.image();
@@ -654,6 +706,7 @@ public final class ChangingEdgesTest extends Checks {
         laws();
         back();
         backEight();
+        backOfEach();
         backNone();
         row();
         judged();
