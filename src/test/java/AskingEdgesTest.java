@@ -332,6 +332,9 @@ public final class AskingEdgesTest extends Checks {
         SecondHelping type3 = told("d00000;d00001;d00003;o0;o1;o2;");
         due(24, "parted by what just one has", type3.tellsMost(0), 0);
         due(24, "1, 2 or 3", type3.tellsMost(1), 3);
+        SecondHelping above = told("d29000;d30001;o0;o0;o0;o0;o0;o1;");
+        due(24, "100 and 120 are unlike, though a ROW would tell both as 99", above.tellsMost(1), 2);
+        due(24, "by the ROW of these, too", rowed(above, 0, 20, 40, 60, 80).tellsMost(1), 2);
     }
 
     private static void loophole() {

@@ -689,6 +689,24 @@ public final class ChangingEdgesTest extends Checks {
         dues(58, "those of longs, too", refusals(y), 2, 3, 3, 2, 0, 5);
     }
 
+    /** An object is used for at most 512 calls: the last of them is answered as the first. */
+    private static void calls() {
+        SecondHelping x = new SecondHelping();
+        x.doing(0, 0, 0);
+        for (int call = 2; call <= 509; call++) {
+            x.next(-1);
+        }
+        due(58, "510th call", x.does(0), 0);
+        due(58, "511th call", x.allDue(), 0);
+        due(58, "512th call", x.count(11), 508);
+        SecondHelping y = new SecondHelping();
+        y.doing(0, 0, 0);
+        for (int call = 2; call <= 511; call++) {
+            y.marks(0, call % 8);
+        }
+        due(11, "512th call", y.back(), 7);
+    }
+
     public static void main(String[] args) {
         newObject();
         letters();
@@ -713,6 +731,7 @@ public final class ChangingEdgesTest extends Checks {
         image();
         imageHolds();
         counts();
+        calls();
         end("all edges of what changes an object hold");
     }
 }
