@@ -742,6 +742,7 @@ public final class AskingEdgesTest extends Checks {
             }
             due(47, "with most, KIND " + kind, x.byKind(-1), dues[kind] > 0 ? kind : 0);
         }
+        due(47, "1 by one KIND, nothing by the others", told("d11000;o0;o0;").byKind(-1), 1);
         due(47, "of several the least", told("d20000;d01001;o0;o0;o1;o1;").byKind(-1), 0);
         due(47, "a KIND under another has its own", told("d00000;d20001;o0;o0;o1;o1;").byKind(0), 1);
     }
