@@ -1,10 +1,13 @@
 import java.io.IOException;
+import java.lang.reflect.Array;
 import java.lang.reflect.Field;
 import java.lang.reflect.Method;
 import java.lang.reflect.Modifier;
 import java.nio.file.Files;
 import java.nio.file.Path;
 import java.util.ArrayList;
+import java.util.Collections;
+import java.util.IdentityHashMap;
 import java.util.List;
 import java.util.Set;
 import java.util.TreeSet;
@@ -12,8 +15,9 @@ import java.util.regex.Matcher;
 import java.util.regex.Pattern;
 
 /**
- * Looks at the program itself: the face that the document gives it, and those
- * rules of ../shared/LANGUAGE.md that can be seen from the text or the class.
+ * Looks at the program itself: the face that the document gives it, those rules
+ * of ../shared/LANGUAGE.md that can be seen from the text or the class, and the
+ * room that an object takes.
  */
 public final class SourceRulesTest {
     private static final Path SOURCE = Path.of("src/main/java/SecondHelping.java");
@@ -28,6 +32,10 @@ public final class SourceRulesTest {
     /** What rule 5 leaves of static fields, but for the constants of an enum. */
     private static final Set<Class<?>> CONSTANTS = Set.of(int.class, long.class, boolean.class, char.class, String.class,
         int[].class, long[].class, char[].class, byte[].class);
+
+    /** What the room of one run leaves for a call, were each of its 512 calls a new object. */
+    private static final int MOST_OBJECTS = 600_000 / 512;
+    private static final int MOST_ELEMENTS = 7_300_000 / 512;
 
     private static int wrong = 0;
 
@@ -131,12 +139,53 @@ public final class SourceRulesTest {
         }
     }
 
-    public static void main(String[] args) throws IOException {
+    /** Rule 12: what a call needs was made with the object, so "new" stands where a field is made. */
+    private static void lookAtMaking(String code) {
+        Pattern field = Pattern.compile("^ {4,8}(private )?final [\\w\\[\\]]+ \\w+ = new \\w+(\\[[^\\]]*\\]|\\([^)]*\\));$");
+        for (String line : code.split("\n")) {
+            hold(!Pattern.compile("\\bnew\\b").matcher(line).find() || field.matcher(line).matches(),
+                    "made by a call: " + line.trim());
+        }
+    }
+
+    /** All objects and arrays that hang on one, with their fields and elements. */
+    private static int elementsOf(Object one, Set<Object> seen) throws IllegalAccessException {
+        if (one == null || one instanceof Number || one instanceof Boolean || !seen.add(one)) {
+            return 0;
+        }
+        int elements = 0;
+        if (one.getClass().isArray()) {
+            boolean numbers = one.getClass().getComponentType().isPrimitive();
+            elements = Array.getLength(one);
+            for (int i = 0; i < Array.getLength(one) && !numbers; i++) {
+                elements += elementsOf(Array.get(one, i), seen);
+            }
+            return elements;
+        }
+        for (Field field : one.getClass().getDeclaredFields()) {
+            if (!Modifier.isStatic(field.getModifiers())) {
+                field.setAccessible(true);
+                elements += 1 + elementsOf(field.get(one), seen);
+            }
+        }
+        return elements;
+    }
+
+    private static void lookAtRoom() throws IllegalAccessException {
+        Set<Object> seen = Collections.newSetFromMap(new IdentityHashMap<>());
+        int elements = elementsOf(new SecondHelping(), seen);
+        hold(elements > 0 && elements <= MOST_ELEMENTS, "an object has too many elements: " + elements);
+        hold(seen.size() <= MOST_OBJECTS, "an object is made of too many: " + seen.size());
+    }
+
+    public static void main(String[] args) throws IOException, IllegalAccessException {
         String text = Files.readString(SOURCE);
         String code = bare(text);
         lookAtWords(text, code);
         lookAtLibrary(code);
         lookAtMethods(code);
+        lookAtMaking(code);
+        lookAtRoom();
         Set<String> publicNames = new TreeSet<>();
         lookAtFace(publicNames);
         lookAtClass(SecondHelping.class, publicNames);
